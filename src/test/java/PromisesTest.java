@@ -1,7 +1,5 @@
-// A few worked cases for each promise: ordinary ones, the edges, and wrong arguments.
+// A few worked cases for each promise: ordinary ones, some edges, and wrong arguments.
 public final class PromisesTest {
-    private static final int[] WRONG_ELEMENTS = {-1, 2, 7, Integer.MIN_VALUE, Integer.MAX_VALUE};
-
     // Rows that rise, sizes above 9, digits too many, and below 0.
     private static final int[] WRONG_CODES = {
         10, 20, 21, 100, 101, 110, 109, 120, 211, 210, 19, 55, 46, 118, 334, 344, 400, 444, 999,
@@ -9,6 +7,7 @@ public final class PromisesTest {
     };
 
     private final Check check = new Check();
+    private final Rings rings = new Rings(check);
 
     public static void main(String[] args) {
         PromisesTest test = new PromisesTest();
@@ -37,28 +36,10 @@ public final class PromisesTest {
         test.check.end("PromisesTest");
     }
 
-    // Element e is the sum of these, given as code, number, code, number and so on, and no more.
-    private void dueElement(String name, ShapeRing ring, int e, int... terms) {
-        for (int code : Model.CODES) {
-            int want = 0;
-            for (int t = 0; t < terms.length; t += 2) {
-                want = terms[t] == code ? terms[t + 1] : want;
-            }
-            check.due(name + ": coefficient(" + e + ", " + code + ")", ring.coefficient(e, code), want);
-        }
-    }
-
-    private ShapeRing ringWith(int code0, int n0, int code1, int n1) {
-        ShapeRing ring = new ShapeRing();
-        ring.add(0, code0, n0);
-        ring.add(1, code1, n1);
-        return ring;
-    }
-
     private void newObject() {
         ShapeRing ring = new ShapeRing();
-        dueElement("new", ring, 0);
-        dueElement("new", ring, 1);
+        rings.dueElement("new", ring, 0);
+        rings.dueElement("new", ring, 1);
         check.due("new: degree(0)", ring.degree(0), ShapeRing.NONE);
         check.due("new: degree(1)", ring.degree(1), ShapeRing.NONE);
         check.due("new: shapes(0)", ring.shapes(0), 0);
@@ -74,141 +55,141 @@ public final class PromisesTest {
         check.due("add(0, 9, 6)", ring.add(0, 9, 6), 0);
         check.due("add(0, 0, -1)", ring.add(0, 0, -1), 0);
         check.due("add(1, 111, 8)", ring.add(1, 111, 8), 0);
-        dueElement("add", ring, 0, 12, 3, 333, 4, 9, 6, 0, -1);
-        dueElement("add", ring, 1, 111, 8);
+        rings.dueElement("add", ring, 0, 12, 3, 333, 4, 9, 6, 0, -1);
+        rings.dueElement("add", ring, 1, 111, 8);
         check.due("add(0, 12, -3)", ring.add(0, 12, -3), 0);
         check.due("add(0, 1, 0)", ring.add(0, 1, 0), 0);
-        dueElement("add", ring, 0, 333, 4, 9, 6, 0, -1);
+        rings.dueElement("add", ring, 0, 333, 4, 9, 6, 0, -1);
     }
 
     private void scale() {
-        ShapeRing ring = ringWith(12, 3, 2, 5);
+        ShapeRing ring = Rings.of(12, 3, 2, 5);
         ring.add(0, 1, -4);
         check.due("scale(0, -6)", ring.scale(0, -6), 0);
-        dueElement("scale", ring, 0, 12, -18, 1, 24);
-        dueElement("scale", ring, 1, 2, 5);
+        rings.dueElement("scale", ring, 0, 12, -18, 1, 24);
+        rings.dueElement("scale", ring, 1, 2, 5);
         check.due("scale(1, 0)", ring.scale(1, 0), 0);
-        dueElement("scale", ring, 1);
-        dueElement("scale", ring, 0, 12, -18, 1, 24);
+        rings.dueElement("scale", ring, 1);
+        rings.dueElement("scale", ring, 0, 12, -18, 1, 24);
     }
 
     private void combine() {
-        ShapeRing ring = ringWith(12, 3, 2, 5);
+        ShapeRing ring = Rings.of(12, 3, 2, 5);
         ring.add(1, 12, 1);
         check.due("combine(-2)", ring.combine(-2), 0);
-        dueElement("combine", ring, 0, 12, 1, 2, -10);
-        dueElement("combine", ring, 1, 12, 1, 2, 5);
+        rings.dueElement("combine", ring, 0, 12, 1, 2, -10);
+        rings.dueElement("combine", ring, 1, 12, 1, 2, 5);
         check.due("combine(0)", ring.combine(0), 0);
-        dueElement("combine", ring, 0, 12, 1, 2, -10);
+        rings.dueElement("combine", ring, 0, 12, 1, 2, -10);
     }
 
     private void swap() {
-        ShapeRing ring = ringWith(12, 3, 333, 5);
+        ShapeRing ring = Rings.of(12, 3, 333, 5);
         check.due("swap()", ring.swap(), 0);
-        dueElement("swap", ring, 0, 333, 5);
-        dueElement("swap", ring, 1, 12, 3);
+        rings.dueElement("swap", ring, 0, 333, 5);
+        rings.dueElement("swap", ring, 1, 12, 3);
         check.due("swap()", ring.swap(), 0);
-        dueElement("swapped back", ring, 0, 12, 3);
-        dueElement("swapped back", ring, 1, 333, 5);
+        rings.dueElement("swapped back", ring, 0, 12, 3);
+        rings.dueElement("swapped back", ring, 1, 333, 5);
     }
 
     private void timesShape() {
-        ShapeRing ring = ringWith(12, 1, 5, 2);
+        ShapeRing ring = Rings.of(12, 1, 5, 2);
         check.due("timesShape(0, 12)", ring.timesShape(0, 12), 0);
-        dueElement("timesShape", ring, 0, 24, 1, 33, 1, 114, 1, 123, 2, 222, 1);
-        dueElement("timesShape", ring, 1, 5, 2);
+        rings.dueElement("timesShape", ring, 0, 24, 1, 33, 1, 114, 1, 123, 2, 222, 1);
+        rings.dueElement("timesShape", ring, 1, 5, 2);
         check.due("5 and 5", ring.timesShape(1, 5), ShapeRing.FULL);
-        dueElement("refused", ring, 1, 5, 2);
+        rings.dueElement("refused", ring, 1, 5, 2);
         check.due("by 1", ring.timesShape(1, 0), 0);
-        dueElement("by 1", ring, 1, 5, 2);
+        rings.dueElement("by 1", ring, 1, 5, 2);
         check.due("5 and 4", ring.timesShape(1, 4), 0);
-        dueElement("5 and 4", ring, 1, 9, 2, 18, 2, 27, 2, 36, 2, 45, 2);
+        rings.dueElement("5 and 4", ring, 1, 9, 2, 18, 2, 27, 2, 36, 2, 45, 2);
         ShapeRing nothing = new ShapeRing();
         check.due("0 is never full", nothing.timesShape(0, 333), 0);
-        dueElement("0 is never full", nothing, 0);
+        rings.dueElement("0 is never full", nothing, 0);
     }
 
     private void timesPower() {
-        ShapeRing ring = ringWith(0, 1, 12, 3);
+        ShapeRing ring = Rings.of(0, 1, 12, 3);
         check.due("timesPower(0, 1)", ring.timesPower(0, 1), 0);
-        dueElement("power 1", ring, 0, 1, 1);
+        rings.dueElement("power 1", ring, 0, 1, 1);
         check.due("timesPower(0, 2)", ring.timesPower(0, 2), 0);
-        dueElement("powers 1, 2", ring, 0, 3, 1, 111, -1);
+        rings.dueElement("powers 1, 2", ring, 0, 3, 1, 111, -1);
         check.due("timesPower(1, 3)", ring.timesPower(1, 3), 0);
-        dueElement("12 by 3", ring, 1, 15, 3, 33, -3, 222, -3);
+        rings.dueElement("12 by 3", ring, 1, 15, 3, 33, -3, 222, -3);
         int[] wrong = {0, -1, 10, Integer.MIN_VALUE, Integer.MAX_VALUE};
         for (int r : wrong) {
             check.due("timesPower(1, " + r + ")", ring.timesPower(1, r), ShapeRing.BAD_ARG);
         }
         check.due("6 and 4", ring.timesPower(1, 4), ShapeRing.FULL);
         check.due("6 and 9", ring.timesPower(1, 9), ShapeRing.FULL);
-        dueElement("refused", ring, 1, 15, 3, 33, -3, 222, -3);
+        rings.dueElement("refused", ring, 1, 15, 3, 33, -3, 222, -3);
         check.due("6 and 3", ring.timesPower(1, 3), 0);
         ShapeRing nothing = new ShapeRing();
         check.due("0 is never full", nothing.timesPower(1, 9), 0);
         check.due("0 and 10", nothing.timesPower(1, 10), ShapeRing.BAD_ARG);
-        dueElement("0 is never full", nothing, 1);
+        rings.dueElement("0 is never full", nothing, 1);
         nothing.add(1, 0, 1);
         check.due("timesPower(1, 9)", nothing.timesPower(1, 9), 0);
-        dueElement("power 9", nothing, 1, 9, 1, 18, -1, 117, 1);
+        rings.dueElement("power 9", nothing, 1, 9, 1, 18, -1, 117, 1);
     }
 
     private void product() {
-        ShapeRing ring = ringWith(1, 2, 1, 3);
+        ShapeRing ring = Rings.of(1, 2, 1, 3);
         ring.add(0, 0, 1);
         ring.add(1, 11, -1);
         check.due("product()", ring.product(), 0);
-        dueElement("product", ring, 0, 1, 3, 2, 6, 11, 5, 12, -2, 111, -2);
-        dueElement("product", ring, 1, 1, 3, 11, -1);
-        ShapeRing full = ringWith(5, 1, 14, 1);
+        rings.dueElement("product", ring, 0, 1, 3, 2, 6, 11, 5, 12, -2, 111, -2);
+        rings.dueElement("product", ring, 1, 1, 3, 11, -1);
+        ShapeRing full = Rings.of(5, 1, 14, 1);
         check.due("5 and 5", full.product(), ShapeRing.FULL);
-        dueElement("refused", full, 0, 5, 1);
-        dueElement("refused", full, 1, 14, 1);
-        ShapeRing just = ringWith(333, -2, 0, 7);
+        rings.dueElement("refused", full, 0, 5, 1);
+        rings.dueElement("refused", full, 1, 14, 1);
+        ShapeRing just = Rings.of(333, -2, 0, 7);
         check.due("9 and 0", just.product(), 0);
-        dueElement("9 and 0", just, 0, 333, -14);
-        dueElement("9 and 0", just, 1, 0, 7);
-        ShapeRing low = ringWith(9, 1, 0, 1);
+        rings.dueElement("9 and 0", just, 0, 333, -14);
+        rings.dueElement("9 and 0", just, 1, 0, 7);
+        ShapeRing low = Rings.of(9, 1, 0, 1);
         low.add(1, 1, 1);
         check.due("9 and 1", low.product(), ShapeRing.FULL);
-        dueElement("9 and 1", low, 0, 9, 1);
+        rings.dueElement("9 and 1", low, 0, 9, 1);
     }
 
     private void productOfZero() {
         ShapeRing first = new ShapeRing();
         first.add(1, 333, 3);
         check.due("0 by 9", first.product(), 0);
-        dueElement("0 by 9", first, 0);
-        dueElement("0 by 9", first, 1, 333, 3);
+        rings.dueElement("0 by 9", first, 0);
+        rings.dueElement("0 by 9", first, 1, 333, 3);
         ShapeRing second = new ShapeRing();
         second.add(0, 333, 3);
         check.due("9 by 0", second.product(), 0);
-        dueElement("9 by 0", second, 0);
+        rings.dueElement("9 by 0", second, 0);
         ShapeRing none = new ShapeRing();
         check.due("0 by 0", none.product(), 0);
-        dueElement("0 by 0", none, 0);
+        rings.dueElement("0 by 0", none, 0);
     }
 
     private void skew() {
-        ShapeRing ring = ringWith(123, 1, 12, 5);
+        ShapeRing ring = Rings.of(123, 1, 12, 5);
         check.due("skew(0, 12)", ring.skew(0, 12), 0);
-        dueElement("skew", ring, 0, 3, 1, 12, 2, 111, 1);
-        dueElement("skew", ring, 1, 12, 5);
+        rings.dueElement("skew", ring, 0, 3, 1, 12, 2, 111, 1);
+        rings.dueElement("skew", ring, 1, 12, 5);
         check.due("by 1", ring.skew(1, 0), 0);
-        dueElement("by 1", ring, 1, 12, 5);
+        rings.dueElement("by 1", ring, 1, 12, 5);
         check.due("by itself", ring.skew(1, 12), 0);
-        dueElement("by itself", ring, 1, 0, 5);
+        rings.dueElement("by itself", ring, 1, 0, 5);
         check.due("by a greater one", ring.skew(1, 1), 0);
-        dueElement("by a greater one", ring, 1);
-        ShapeRing mixed = ringWith(9, 2, 0, 1);
+        rings.dueElement("by a greater one", ring, 1);
+        ShapeRing mixed = Rings.of(9, 2, 0, 1);
         mixed.add(0, 333, 3);
         mixed.add(0, 1, 4);
         check.due("skew(0, 1)", mixed.skew(0, 1), 0);
-        dueElement("mixed", mixed, 0, 8, 2, 233, 3, 0, 4);
+        rings.dueElement("mixed", mixed, 0, 8, 2, 233, 3, 0, 4);
     }
 
     private void part() {
-        ShapeRing ring = ringWith(123, 1, 12, 5);
+        ShapeRing ring = Rings.of(123, 1, 12, 5);
         ring.add(0, 6, 2);
         ring.add(0, 0, 3);
         ring.add(0, 9, 4);
@@ -216,19 +197,19 @@ public final class PromisesTest {
         for (int n : wrong) {
             check.due("part(0, " + n + ")", ring.part(0, n), ShapeRing.BAD_ARG);
         }
-        dueElement("refused", ring, 0, 123, 1, 6, 2, 0, 3, 9, 4);
+        rings.dueElement("refused", ring, 0, 123, 1, 6, 2, 0, 3, 9, 4);
         check.due("part(0, 6)", ring.part(0, 6), 0);
-        dueElement("part", ring, 0, 123, 1, 6, 2);
-        dueElement("part", ring, 1, 12, 5);
+        rings.dueElement("part", ring, 0, 123, 1, 6, 2);
+        rings.dueElement("part", ring, 1, 12, 5);
         check.due("part(1, 0)", ring.part(1, 0), 0);
-        dueElement("nothing left", ring, 1);
-        ShapeRing ends = ringWith(0, 3, 0, 6);
+        rings.dueElement("nothing left", ring, 1);
+        ShapeRing ends = Rings.of(0, 3, 0, 6);
         ends.add(0, 9, 4);
         ends.add(1, 333, 4);
         check.due("part(0, 0)", ends.part(0, 0), 0);
         check.due("part(1, 9)", ends.part(1, 9), 0);
-        dueElement("part 0", ends, 0, 0, 3);
-        dueElement("part 9", ends, 1, 333, 4);
+        rings.dueElement("part 0", ends, 0, 0, 3);
+        rings.dueElement("part 9", ends, 1, 333, 4);
     }
 
     private void coefficient() {
@@ -249,7 +230,7 @@ public final class PromisesTest {
     }
 
     private void degree() {
-        ShapeRing ring = ringWith(0, 7, 333, 1);
+        ShapeRing ring = Rings.of(0, 7, 333, 1);
         check.due("a number", ring.degree(0), 0);
         check.due("333", ring.degree(1), 9);
         ring.add(0, 22, 1);
@@ -263,7 +244,7 @@ public final class PromisesTest {
     }
 
     private void shapes() {
-        ShapeRing ring = ringWith(0, 7, 333, -1);
+        ShapeRing ring = Rings.of(0, 7, 333, -1);
         ring.add(0, 22, 1);
         ring.add(0, 13, -1);
         check.due("three", ring.shapes(0), 3);
@@ -277,7 +258,7 @@ public final class PromisesTest {
     }
 
     private void monomial() {
-        ShapeRing ring = ringWith(12, 1, 0, 5);
+        ShapeRing ring = Rings.of(12, 1, 0, 5);
         check.due("x y z", ring.monomial(0, 1, 1, 1), 2);
         check.due("x^2 y", ring.monomial(0, 2, 1, 0), 1);
         check.due("y z^2", ring.monomial(0, 0, 1, 2), 1);
@@ -301,7 +282,7 @@ public final class PromisesTest {
     }
 
     private void value() {
-        ShapeRing ring = ringWith(12, 1, 0, 5);
+        ShapeRing ring = Rings.of(12, 1, 0, 5);
         check.due("(x+y)(y+z)(x+z)", ring.value(0, 2, 3, 5), 5 * 8 * 7);
         check.due("exchanged", ring.value(0, 5, 2, 3), 5 * 8 * 7);
         check.due("a number", ring.value(1, 8, 9, 10), 5);
@@ -315,13 +296,13 @@ public final class PromisesTest {
         check.due("wraps", ring.value(0, x, y, z), (x + y) * (y + z) * (x + z));
         int least = Integer.MIN_VALUE;
         check.due("the least", ring.value(0, least, 1, 1), (least + 1) * 2 * (least + 1));
-        ShapeRing nine = ringWith(333, 1, 9, 1);
+        ShapeRing nine = Rings.of(333, 1, 9, 1);
         check.due("333", nine.value(0, 2, 3, -1), -216);
         check.due("9", nine.value(1, 3, 0, 0), 19683);
     }
 
     private void inner() {
-        ShapeRing ring = ringWith(12, 3, 12, 5);
+        ShapeRing ring = Rings.of(12, 3, 12, 5);
         ring.add(0, 333, 2);
         ring.add(1, 333, -7);
         ring.add(0, 0, 4);
@@ -329,8 +310,8 @@ public final class PromisesTest {
         ring.add(0, 1, 100);
         ring.add(1, 2, 100);
         check.due("inner()", ring.inner(), 15 - 14 + 40);
-        dueElement("inner", ring, 0, 12, 3, 333, 2, 0, 4, 1, 100);
-        dueElement("inner", ring, 1, 12, 5, 333, -7, 0, 10, 2, 100);
+        rings.dueElement("inner", ring, 0, 12, 3, 333, 2, 0, 4, 1, 100);
+        rings.dueElement("inner", ring, 1, 12, 5, 333, -7, 0, 10, 2, 100);
         ring.add(1, 1, 1 << 30);
         check.due("wraps", ring.inner(), 41);
         ring.add(1, 1, Integer.MAX_VALUE);
@@ -338,7 +319,7 @@ public final class PromisesTest {
     }
 
     private void number() {
-        ShapeRing ring = ringWith(12, 3, 2, 5);
+        ShapeRing ring = Rings.of(12, 3, 2, 5);
         check.due("number(12, 12, 123)", ring.number(12, 12, 123), 2);
         check.due("number(1, 2, 3)", ring.number(1, 2, 3), 1);
         check.due("number(1, 2, 111)", ring.number(1, 2, 111), 0);
@@ -351,13 +332,13 @@ public final class PromisesTest {
             check.due("number(0, " + code + ", 0)", ring.number(0, code, 0), ShapeRing.BAD_ARG);
             check.due("number(0, 0, " + code + ")", ring.number(0, 0, code), ShapeRing.BAD_ARG);
         }
-        dueElement("number", ring, 0, 12, 3);
-        dueElement("number", ring, 1, 2, 5);
+        rings.dueElement("number", ring, 0, 12, 3);
+        rings.dueElement("number", ring, 1, 2, 5);
     }
 
     private void wrongElements() {
-        for (int e : WRONG_ELEMENTS) {
-            ShapeRing ring = ringWith(12, 3, 9, 5);
+        for (int e : Rings.WRONG_ELEMENTS) {
+            ShapeRing ring = Rings.of(12, 3, 9, 5);
             int bad = ShapeRing.BAD_ARG;
             check.due("add", ring.add(e, 1, 1), bad);
             check.due("scale", ring.scale(e, 2), bad);
@@ -370,28 +351,28 @@ public final class PromisesTest {
             check.due("shapes", ring.shapes(e), bad);
             check.due("monomial", ring.monomial(e, 2, 1, 0), bad);
             check.due("value", ring.value(e, 1, 1, 1), bad);
-            dueElement("element " + e, ring, 0, 12, 3);
-            dueElement("element " + e, ring, 1, 9, 5);
+            rings.dueElement("element " + e, ring, 0, 12, 3);
+            rings.dueElement("element " + e, ring, 1, 9, 5);
         }
     }
 
     private void wrongCodes() {
         for (int code : WRONG_CODES) {
-            ShapeRing ring = ringWith(12, 3, 9, 5);
+            ShapeRing ring = Rings.of(12, 3, 9, 5);
             int bad = ShapeRing.BAD_ARG;
             check.due("add " + code, ring.add(0, code, 1), bad);
             check.due("timesShape " + code, ring.timesShape(1, code), bad);
             check.due("skew " + code, ring.skew(0, code), bad);
             check.due("coefficient " + code, ring.coefficient(0, code), bad);
-            dueElement("code " + code, ring, 0, 12, 3);
-            dueElement("code " + code, ring, 1, 9, 5);
+            rings.dueElement("code " + code, ring, 0, 12, 3);
+            rings.dueElement("code " + code, ring, 1, 9, 5);
         }
     }
 
     private void wrapping() {
-        ShapeRing ring = ringWith(1, Integer.MAX_VALUE, 1, 1 << 16);
+        ShapeRing ring = Rings.of(1, Integer.MAX_VALUE, 1, 1 << 16);
         ring.add(0, 1, 1);
-        dueElement("add wraps", ring, 0, 1, Integer.MIN_VALUE);
+        rings.dueElement("add wraps", ring, 0, 1, Integer.MIN_VALUE);
         ring.scale(0, 2);
         check.due("scaled to 0", ring.degree(0), ShapeRing.NONE);
         ring.add(0, 1, 1 << 16);
@@ -399,22 +380,22 @@ public final class PromisesTest {
         check.due("a product that wraps to 0", ring.shapes(0), 0);
         ring.add(0, 1, 1);
         ring.combine(1 << 16);
-        dueElement("combine wraps", ring, 0, 1, 1);
+        rings.dueElement("combine wraps", ring, 0, 1, 1);
         ring.combine(1 << 15);
-        dueElement("combine wraps", ring, 0, 1, Integer.MIN_VALUE + 1);
+        rings.dueElement("combine wraps", ring, 0, 1, Integer.MIN_VALUE + 1);
         // A coefficient that wraps to 0 does not count for the degree.
         ring.add(0, 9, 1 << 31);
         ring.scale(0, 2);
         check.due("9 wrapped away", ring.timesShape(0, 8), 0);
-        dueElement("9 wrapped away", ring, 0, 9, 2, 18, 2);
+        rings.dueElement("9 wrapped away", ring, 0, 9, 2, 18, 2);
     }
 
     private void separateObjects() {
-        ShapeRing one = ringWith(12, 3, 9, 5);
+        ShapeRing one = Rings.of(12, 3, 9, 5);
         ShapeRing other = new ShapeRing();
         other.add(0, 12, 1);
         other.timesShape(0, 12);
-        dueElement("untouched", one, 0, 12, 3);
-        dueElement("untouched", one, 1, 9, 5);
+        rings.dueElement("untouched", one, 0, 12, 3);
+        rings.dueElement("untouched", one, 1, 9, 5);
     }
 }
