@@ -3,6 +3,7 @@ import com.sun.source.tree.BinaryTree;
 import com.sun.source.tree.BlockTree;
 import com.sun.source.tree.ClassTree;
 import com.sun.source.tree.CompilationUnitTree;
+import com.sun.source.tree.CompoundAssignmentTree;
 import com.sun.source.tree.DoWhileLoopTree;
 import com.sun.source.tree.EnhancedForLoopTree;
 import com.sun.source.tree.ExpressionTree;
@@ -16,6 +17,8 @@ import com.sun.source.tree.MethodTree;
 import com.sun.source.tree.NewArrayTree;
 import com.sun.source.tree.NewClassTree;
 import com.sun.source.tree.Tree;
+import com.sun.source.tree.TypeCastTree;
+import com.sun.source.tree.UnaryTree;
 import com.sun.source.tree.VariableTree;
 import com.sun.source.tree.WhileLoopTree;
 import com.sun.source.util.JavacTask;
@@ -187,6 +190,7 @@ public final class LanguageTest {
     // What a method may not hold: rules 2, 3, 4, 6, 8 and 10.
     private final class BodyScanner extends TreeScanner<Void, Void> {
         private final String method;
+        private final Set<String> counters = new HashSet<>();
         private boolean inArguments = false;
 
         BodyScanner(String method) {
@@ -250,7 +254,35 @@ public final class LanguageTest {
             // Fields that name arrays are final; this keeps other names from being given one.
             check.due(method + ": " + assignment,
                 !arrays.contains(assignment.getExpression().toString()));
+            keepsCounter(assignment, assignment.getVariable());
             return super.visitAssignment(assignment, nothing);
+        }
+
+        @Override
+        public Void visitCompoundAssignment(CompoundAssignmentTree assignment, Void nothing) {
+            keepsCounter(assignment, assignment.getVariable());
+            return super.visitCompoundAssignment(assignment, nothing);
+        }
+
+        @Override
+        public Void visitUnary(UnaryTree unary, Void nothing) {
+            boolean changes = unary.toString().contains("++") || unary.toString().contains("--");
+            if (changes) {
+                keepsCounter(unary, unary.getExpression());
+            }
+            return super.visitUnary(unary, nothing);
+        }
+
+        // A loop that changes its own counter would have an end that can't be seen.
+        private void keepsCounter(Tree change, ExpressionTree changed) {
+            check.due(method + ": in a loop over it, " + change,
+                !counters.contains(changed.toString()));
+        }
+
+        @Override
+        public Void visitTypeCast(TypeCastTree cast, Void nothing) {
+            check.due(method + ": " + cast, TYPES.contains(cast.getType().toString()));
+            return super.visitTypeCast(cast, nothing);
         }
 
         @Override
@@ -259,6 +291,9 @@ public final class LanguageTest {
                 || binary.getKind() == Tree.Kind.REMAINDER;
             check.due(method + ": " + binary,
                 !divides || binary.getRightOperand().toString().matches("[1-9]\\d*"));
+            check.due(method + ": an array compared, " + binary,
+                !arrays.contains(binary.getLeftOperand().toString())
+                    && !arrays.contains(binary.getRightOperand().toString()));
             return super.visitBinary(binary, nothing);
         }
 
@@ -271,7 +306,12 @@ public final class LanguageTest {
                 .matches("(\\w+ \\+ )*" + name + "( \\+ \\w+)* <=? [\\w\\[\\]]+"));
             check.due(method + ": " + name + " is counted up", loop.getUpdate().size() == 1
                 && loop.getUpdate().get(0).toString().equals(name + "++;"));
-            return super.visitForLoop(loop, nothing);
+            scan(loop.getInitializer(), nothing);
+            scan(loop.getCondition(), nothing);
+            counters.add(name);
+            scan(loop.getStatement(), nothing);
+            counters.remove(name);
+            return null;
         }
 
         @Override
